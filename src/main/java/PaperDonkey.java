@@ -307,7 +307,7 @@ public final class PaperDonkey {
             return NONE;
         }
         odds.knowsAll(p);
-        return odds.isBetterLifted(p, i * p.blows + b, strength) ? 1 : 0;
+        return odds.isBetterLifted(p, i, b, strength) ? 1 : 0;
     }
 
     public int fair(int party) {
@@ -861,8 +861,6 @@ public final class PaperDonkey {
         int sweets;
         int bandage;
         int stick;
-        /** CHILDREN told of by cell, friend, foe (bits). */
-        int named;
 
         void clear() {
             parts = 0;
@@ -884,7 +882,6 @@ public final class PaperDonkey {
             sweets = 20;
             bandage = 2;
             stick = 1;
-            named = 0;
         }
 
         boolean has(int child) {
@@ -900,7 +897,7 @@ public final class PaperDonkey {
         }
 
         boolean isWhole() {
-            return parts > 0 && children > 0 && named >>> children == 0 && turnedOfAll() > 0;
+            return parts > 0 && children > 0 && turnedOfAll() > 0;
         }
 
         void addPart(int h, int s) {
@@ -924,14 +921,12 @@ public final class PaperDonkey {
         void setSpot(int child, int cell) {
             if (child >= 0 && child < MOST_CHILDREN) {
                 spot[child] = cell;
-                named |= 1 << child;
             }
         }
 
         void setTie(int child, int other, int how) {
             if (child >= 0 && child < MOST_CHILDREN && other >= 0 && other < MOST_CHILDREN) {
                 tie[child * MOST_CHILDREN + other] = how;
-                named |= 1 << child | 1 << other;
             }
         }
 
@@ -1058,7 +1053,6 @@ public final class PaperDonkey {
             sweets = other.sweets;
             bandage = other.bandage;
             stick = other.stick;
-            named = other.named;
         }
     }
 
@@ -1082,6 +1076,8 @@ public final class PaperDonkey {
         private int from;
         private int to;
         private int number;
+        // CHILDREN told of by cell, friend, foe (bits).
+        private int named;
 
         /** True without a FAULT. */
         boolean reads(Told told, int sort) {
@@ -1097,7 +1093,7 @@ public final class PaperDonkey {
                     return false;
                 }
             }
-            if (sort == PARTIES && !party.isWhole()) {
+            if (sort == PARTIES && !(party.isWhole() && named >>> party.children == 0)) {
                 blame(4, told.length);
             }
             return fault == 0;
@@ -1105,6 +1101,7 @@ public final class PaperDonkey {
 
         private void clearDrafts() {
             party.clear();
+            named = 0;
             book.size = 0;
             clues.clear();
             ground.size = 0;
@@ -1239,12 +1236,15 @@ public final class PaperDonkey {
                     break;
                 case CELL:
                     party.setSpot(value[0], value[1]);
+                    named |= 1 << value[0];
                     break;
                 case FRIEND:
                     party.setTie(value[0], value[1], FRIEND_TIE);
+                    named |= 1 << value[0] | 1 << value[1];
                     break;
                 case FOE:
                     party.setTie(value[0], value[1], FOE_TIE);
+                    named |= 1 << value[0] | 1 << value[1];
                     break;
                 case TURNED:
                     party.setTurned(value[0], value[1]);
@@ -1823,13 +1823,22 @@ public final class PaperDonkey {
             for (int s = 0; s < STRENGTHS; s++) {
                 setBest(all, s, 0);
             }
-            for (int k = all - 1; k >= 0; k--) {
-                int hits = p.hits[k / p.blows];
-                for (int s = 1; s < STRENGTHS; s++) {
-                    long lifted = bestAt(k + 1, s);
-                    long better = Math.max(lifted, ifNotLifted(p, k, s));
-                    setBest(k, s, (10 - hits) * lifted + hits * better);
+            int k = all - 1;
+            for (int child = p.children - 1; child >= 0; child--) {
+                for (int b = 0; b < p.blows; b++) {
+                    weighLifting(p, child, k);
+                    k--;
                 }
+            }
+        }
+
+        /** The best GOOD ahead of a child's blow that is the k-th one of all. */
+        private void weighLifting(Party p, int child, int k) {
+            int hits = p.hits[child];
+            for (int s = 1; s < STRENGTHS; s++) {
+                long lifted = bestAt(k + 1, s);
+                long better = Math.max(lifted, ifNotLifted(p, child, k, s));
+                setBest(k, s, (10 - hits) * lifted + hits * better);
             }
         }
 
@@ -1847,11 +1856,7 @@ public final class PaperDonkey {
             return k >= 0 && k <= MOST_BLOWS && s >= 0 && s < STRENGTHS;
         }
 
-        private long ifNotLifted(Party p, int k, int s) {
-            int child = p.blows > 0 ? k / p.blows : 0;
-            if (!p.has(child)) {
-                return 0;
-            }
+        private long ifNotLifted(Party p, int child, int k, int s) {
             if (s > p.force[child]) {
                 return bestAt(k + 1, s - p.force[child]);
             }
@@ -1859,8 +1864,10 @@ public final class PaperDonkey {
             return child == p.children - 1 ? tens(p.children * p.blows - k - 1) : 0;
         }
 
-        boolean isBetterLifted(Party p, int k, int s) {
-            return bestAt(k + 1, s) > ifNotLifted(p, k, s);
+        /** Whether UNCLE LIFTS at blow b of a child. */
+        boolean isBetterLifted(Party p, int child, int b, int s) {
+            int k = child * p.blows + b;
+            return p.has(child) && bestAt(k + 1, s) > ifNotLifted(p, child, k, s);
         }
     }
 

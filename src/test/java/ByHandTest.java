@@ -301,7 +301,13 @@ public final class ByHandTest {
     }
 
     private static void uncle() {
-        PaperDonkey x = Kit.withParty(TWO);
+        KIT.due("lifts, asked first of all", Kit.withParty(TWO).lifts(0, 0, 0, 2), 1);
+        KIT.due("best, asked first of all", Kit.withParty(TWO).uncle(0, true), 1);
+        PaperDonkey x = Kit.withParty("part 0 1;child 3 1 5 0;blows 1;");
+        KIT.dueFraction("best of one", x.uncle(0, false), x.uncle(0, true), 1, 2);
+        Kit.put(x, TWO);
+        KIT.due("another party", x.text(0, 0), 0);
+        KIT.due("lifts of another", x.lifts(0, 0, 0, 2), 1);
         KIT.dueFraction("best", x.uncle(0, false), x.uncle(0, true), 1, 1);
         KIT.due("lifts, or all is lost", x.lifts(0, 0, 0, 2), 1);
         KIT.due("no need", x.lifts(0, 0, 0, 7), 0);

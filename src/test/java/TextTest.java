@@ -75,6 +75,32 @@ public final class TextTest {
         due(4, "true;", 1, 4);
         due(4, "hit 0;", 1, 4);
         due(4, "hit;miss;true 7;false 0;", 0, -1);
+        words();
+    }
+
+    /** Each word, and what is a letter off at its head, its middle, its end, or is longer. */
+    private static void words() {
+        String[][] lines = {
+            {"part 0 1;", "child 3 1 0 0;", "cell 0 1;", "friend 0 1;", "foe 0 1;", "turned 0 1;", "ring 0 1;", "blows 1;",
+                "lift 3;", "sweets 1;", "bandage 1;", "stick 1;"},
+            {"go 0;", "face 0;", "strike 0 0;", "up 1;", "down 1;", "cut;"},
+            {"says 0 0;", "truth 0 0;", "air 0;", "graze 0;", "square 0;"},
+            {"fell 0 1;"},
+            {"true 0;", "false 0;", "hit;", "miss;"}};
+        for (int sort = 0; sort < 5; sort++) {
+            String ahead = sort == 0 ? "part 0 1;child 3 1 0 0;child 3 1 0 0;" : "";
+            for (String line : lines[sort]) {
+                String word = line.replaceAll("[^a-z].*", "");
+                String rest = line.substring(word.length());
+                due(sort, ahead + line, 0, -1);
+                for (int k = 0; k < word.length(); k++) {
+                    due(sort, ahead + word.substring(0, k) + 'x' + word.substring(k + 1) + rest, 1, ahead.length());
+                }
+                due(sort, ahead + word + 's' + rest, 1, ahead.length());
+                due(sort, ahead + word.substring(1) + rest, 1, ahead.length());
+                due(sort, ahead + word.toUpperCase(java.util.Locale.ROOT) + rest, 1, ahead.length());
+            }
+        }
     }
 
     /** Of each NUMBER the least, the most, and beyond (of what a digit or two can tell). */
@@ -292,16 +318,29 @@ public final class TextTest {
         KIT.due("no place now", x.fault(1), -1);
         KIT.due("one deed", x.deed(1, -1, 0), 1);
         KIT.due("it is down", x.deed(1, 0, 0), 4);
-        Kit.put(x, "part 1 1;blows 5;stick 3;turned 0 9;ring 1 9;child 3 1 0 0;child 3 1 0 0;cell 1 9;friend 0 1;");
+        Kit.put(x, "part 1 1;blows 5;stick 3;lift 3;sweets 0;bandage 9;"
+                + "turned 0 9;turned 7 9;ring 0 9;ring 1 9;ring 2 9;child 3 1 0 0;child 3 1 0 0;cell 0 8;cell 1 9;friend 0 1;foe 1 0;");
         KIT.due("a party", x.text(0, 0), 0);
         Kit.put(x, "part 1 1;child 3 1 0 0;child 3 1 0 0;");
         KIT.due("a plain one", x.text(0, 0), 0);
         KIT.due("plain blows", x.party(0, 2), 3);
         KIT.due("plain stick", x.party(0, 6), 1);
+        KIT.due("plain lift", x.party(0, 3), 16);
+        KIT.due("plain sweets", x.party(0, 4), 20);
+        KIT.due("plain bandage", x.party(0, 5), 2);
         KIT.due("plain turned", x.party(0, 10), 1);
-        KIT.due("plain ring", x.party(0, 21), 1);
-        KIT.due("plain cell", x.child(0, 1, 4), 0);
-        KIT.due("plain tie", x.child(0, 0, 11), 1);
+        KIT.due("plain turned", x.party(0, 17), 1);
+        for (int ring = 0; ring < 3; ring++) {
+            KIT.due("plain ring", x.party(0, 20 + ring), 1);
+        }
+        for (int c = 0; c < 2; c++) {
+            KIT.due("plain cell", x.child(0, c, 4), 0);
+            KIT.due("plain tie", x.child(0, c, 11 - c), 1);
+        }
+        Kit.put(x, "part 1 1;foe 0 5;child 3 1 0 0;");
+        KIT.due("a child that is not there", x.text(0, 0), -1);
+        Kit.put(x, "part 1 1;child 3 1 0 0;");
+        KIT.due("it was told of then, not now", x.text(0, 0), 0);
         Kit.put(x, "truth 0 9;");
         KIT.due("clues", x.text(2, 0), 0);
         Kit.put(x, "");
