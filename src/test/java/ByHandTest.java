@@ -340,6 +340,11 @@ public final class ByHandTest {
         KIT.due("all alike: the first by rows", x.fair(0), 01234);
         x = Kit.withParty("part 0 1;child 3 1 9 0;");
         KIT.due("one alone", x.fair(0), 0);
+        // By tenths: 0.2, 0.8 * 0.3, 0.56 * 0.4, 0.336 * 0.5, and the rest by the sure one, the last row of all.
+        x = Kit.withParty("part 0 1;child 3 1 10 0;child 3 1 5 0;child 3 1 4 0;child 3 1 3 0;child 3 1 2 0;blows 1;");
+        KIT.due("the last row of all", x.fair(0), 043210);
+        chance(x, 043210, 1, 13, 6, 25);
+        chance(x, 043210, 1, 10, 21, 125);
         x = Kit.withParty("part 0 1;child 3 1 0 0;child 3 1 0 0;child 3 1 0 0;child 3 1 0 0;child 3 1 0 0;child 3 1 0 0;blows 1;");
         KIT.due("six are too many", x.fair(0), -1);
         KIT.due("but not for that", x.thick(0), 1);
