@@ -9,6 +9,24 @@ final class Kit {
 
     private int asked;
     private int wrong;
+    private int sentences;
+    private int askedAhead;
+    private String sentence = "";
+
+    /** Begins a sentence of the document: what is due from here on is due by it. */
+    void says(String words) {
+        endSentence();
+        sentence = words;
+        sentences++;
+        askedAhead = asked;
+    }
+
+    private void endSentence() {
+        if (sentences > 0 && asked == askedAhead) {
+            wrong++;
+            System.out.println("nothing was asked by: " + sentence);
+        }
+    }
 
     /** An answer and the one that is due. */
     void due(String call, long got, long want) {
@@ -16,7 +34,7 @@ final class Kit {
         if (got != want) {
             wrong++;
             if (wrong <= MOST_TOLD) {
-                System.out.println(call + " answered " + got + ", due is " + want);
+                System.out.println(call + " answered " + got + ", due is " + want + (sentence.isEmpty() ? "" : " [" + sentence + "]"));
             }
         }
     }
@@ -31,8 +49,20 @@ final class Kit {
         due(call + " D", d, wantD);
     }
 
+    /** Takes a text on a new object as a further one of a sort, with the FAULT and the place that are due. */
+    void dueText(int sort, String text, int fault, int place) {
+        PaperDonkey x = new PaperDonkey();
+        put(x, text);
+        due("text " + sort + ": " + text, x.text(sort, NONE), fault == 0 ? 0 : NONE);
+        due("fault of " + text, x.fault(0), fault);
+        due("place of " + text, x.fault(1), place);
+        due("how many behind " + text, x.count(sort), fault == 0 ? 1 : 0);
+    }
+
     void close(String test) {
-        System.out.println(test + ": " + asked + " answers, " + wrong + " not as due");
+        endSentence();
+        String by = sentences == 0 ? "" : " by " + sentences + " sentences";
+        System.out.println(test + ": " + asked + " answers" + by + ", " + wrong + " not as due");
         if (asked == 0 || wrong != 0) {
             System.exit(1);
         }
