@@ -270,6 +270,14 @@ public final class EdgesBookTest {
         KIT.due("no other one", x.state(0, 0, 4, 8), -1);
         KIT.due("AIR", x.state(0, 0, 4, 7), 0);
         KIT.due("nor is it grazed", x.state(0, 0, 5, 7), 0);
+        KIT.says("A blow: of PARTS: of none that a PARTY in this place had before");
+        x = with("part 9 30;part 0 4;child 3 4 0 0;", "go 0;face 0;strike 0 0;");
+        KIT.due("at the leg", x.state(0, 0, 3, 8), 1);
+        Kit.put(x, "part 9 30;child 3 4 0 0;");
+        KIT.due("without a leg", x.text(0, 0), 0);
+        KIT.due("AIR", x.state(0, 0, 3, 7), 0);
+        KIT.due("at none", x.state(0, 0, 3, 8), -1);
+        KIT.says("A blow: one of STRENGTH left is enough");
         x = with("part 9 30;part 0 5;child 3 4 0 0;blows 3;", "go 0;face 0;strike 0 0;strike 0 0;strike 0 0;");
         KIT.due("one left", x.state(0, 0, 3, 11), 1);
         KIT.due("so it is struck", x.state(0, 0, 4, 8), 1);
@@ -429,6 +437,16 @@ public final class EdgesBookTest {
                 KIT.due("did " + c + " " + what, x.did(0, 0, 11, c, what), due[c][what]);
                 KIT.due("did ahead " + c + " " + what, x.did(0, 0, 0, c, what), 0);
             }
+        }
+        for (int c = 0; c < 3; c++) {
+            for (int what = 0; what < 4; what++) {
+                KIT.due("did once more " + c + " " + what, x.did(0, 0, 11, c, what), due[c][what]);
+            }
+        }
+        PaperDonkey air = with(THREE, "go 0;face 0;strike 4 9;");
+        for (int k = 0; k < 3; k++) {
+            KIT.due("one of AIR, asked " + k, air.did(0, 0, 3, 0, 0), 1);
+            KIT.due("none of AIR ahead, asked " + k, air.did(0, 0, 2, 0, 0), 0);
         }
         KIT.due("in the STATE behind his first blow", x.did(0, 0, 3, 0, 3), 5);
         KIT.due("in the STATE behind his second blow", x.did(0, 0, 4, 0, 3), 7);

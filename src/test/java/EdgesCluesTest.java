@@ -199,6 +199,8 @@ public final class EdgesCluesTest {
         KIT.says("CONTRARY: .. while with all none has");
         aims(PARTY, "square 3;", 3, 1, 0);
         aims(PARTY, "square 3;graze 4;graze 2;", 3, 0, 0);
+        KIT.due("asked ahead of all", with(PARTY, "square 3;").aim(0, 0, 2), 0);
+        KIT.due("asked ahead of all", with(PARTY, "square 3;square 4;").aim(0, 0, 2), 3);
         KIT.says("CONTRARY: CLUES (bits) without each of which alone some WAY has weight");
         aims(PARTY, "square 0;square 4;", -1, 0, 3);
         aims(PARTY, "square 0;square 0;square 4;", -1, 0, 4);

@@ -123,6 +123,11 @@ public final class EdgesImageTest {
         KIT.due("five bytes", x.end(6), -1);
         KIT.due("of the tape as it was", x.text(1, -1), 0);
         KIT.due("its deed", x.deed(0, 0, 1), 5);
+        Kit.put(x, "down 7;????");
+        KIT.due("again, over another tape", x.again(2), true);
+        KIT.due("of the tape as it was", x.text(1, -1), 0);
+        KIT.due("its deed", x.deed(0, 0, 0), 3);
+        KIT.due("its number", x.deed(0, 0, 1), 5);
         KIT.says("image: a full tape, an empty one");
         x = new PaperDonkey();
         x.image(0);

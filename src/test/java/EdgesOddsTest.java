@@ -118,6 +118,13 @@ public final class EdgesOddsTest {
         chance(x, -1, 1, 0, 1, 4);
         x = Kit.withParty("part 0 2;child 3 1 10 0;child 3 1 10 0;blows 1;");
         chance(x, -1, 1, 0, 1, 1);
+        x = Kit.withParty("part 0 2;child 3 1 10 0;child 3 1 5 0;child 3 1 10 0;blows 1;");
+        chance(x, -1, 1, 0, 1, 2);
+        chance(x, 0120, 1, 0, 1, 2);
+        chance(x, 021, 1, 0, 0, 1);
+        x = Kit.withParty("part 0 1;" + children(8, "3 1 5 0") + "blows 1;");
+        chance(x, -1, 1, 0, 1, 128);
+        chance(x, -1, 1, 17, 1, 256);
         KIT.says("LASTS of one child alone: he has a go in any case");
         x = Kit.withParty("part 0 1;child 3 9 10 0;blows 5;");
         chance(x, -1, 1, 0, 1, 1);
@@ -252,6 +259,11 @@ public final class EdgesOddsTest {
         best("part 0 2;child 3 1 10 0;child 3 1 10 0;blows 1;", 1, 1);
         best("part 0 3;child 3 1 10 0;child 3 1 10 0;blows 1;", 0, 1);
         best("part 0 1;child 3 1 10 0;child 3 1 10 0;child 3 9 0 0;blows 1;", 0, 1);
+        best("part 0 30;blows 5;" + children(3, "3 9 10 0"), 1, 1);
+        best("part 0 29;blows 5;" + children(3, "3 9 10 0"), 1, 1);
+        best("part 0 30;blows 5;" + children(3, "3 1 10 0"), 0, 1);
+        best("part 0 15;blows 5;" + children(3, "3 1 10 0"), 1, 1);
+        best("part 0 16;blows 5;" + children(3, "3 1 10 0"), 0, 1);
         KIT.says("UNCLE of one child alone: it is his to BURST it");
         best("part 0 1;child 3 1 5 0;blows 1;", 1, 2);
         best("part 0 1;child 3 1 5 0;blows 2;", 3, 4);
@@ -334,6 +346,7 @@ public final class EdgesOddsTest {
         // The surest one last: of any two others the surer one behind.
         fairOf("part 0 1;child 3 1 10 0;child 3 1 5 0;child 3 1 4 0;blows 1;", 0210);
         fairOf("part 0 1;child 3 1 10 0;child 3 1 5 0;child 3 1 4 0;child 3 1 3 0;child 3 1 2 0;blows 1;", 043210);
+        fairOfEach();
         KIT.says("FAIR: of all CHILDREN (5 at most), NONE: more than 5 CHILDREN");
         for (int n = 1; n <= 8; n++) {
             int[] due = {0, 01, 012, 0123, 01234, -1, -1, -1};
@@ -345,6 +358,30 @@ public final class EdgesOddsTest {
         fairOf("part 0 1;blows 4;" + children(4, "3 1 0 0"), -1);
         fairOf("part 0 1;blows 4;" + children(3, "3 1 0 0"), 012);
         fairOf("part 0 1;blows 5;" + children(3, "3 1 0 0"), 012);
+    }
+
+    /** Of five of whom each hits surer than the next one, however they are numbered, the least sure one goes first. */
+    private static void fairOfEach() {
+        int[] hits = {2, 3, 4, 5, 10};
+        for (int k = 0; k < 3125; k++) {
+            int order = 0;
+            int seen = 0;
+            int rest = k;
+            int[] whoIs = new int[5];
+            for (int i = 0; i < 5; i++) {
+                whoIs[rest % 5] = hits[i];
+                seen |= 1 << rest % 5;
+                order = order * 8 + rest % 5;
+                rest /= 5;
+            }
+            if (seen == 31) {
+                StringBuilder s = new StringBuilder("part 0 1;blows 1;");
+                for (int c = 0; c < 5; c++) {
+                    s.append("child 3 1 ").append(whoIs[c]).append(" 0;");
+                }
+                fairOf(s.toString(), order);
+            }
+        }
     }
 
     private static void thickOf(String party, int due) {

@@ -170,9 +170,32 @@ public final class EdgesTapeTest {
         Kit.put(x, "up 4;?");
         KIT.due("all but the last one", x.end(5), 5);
         KIT.due("text", x.text(1, -1), 1);
+        KIT.says("end: .. alone: what is behind them is no token, nor a part of one");
+        ends("up 12;", 4);
+        ends("up 1;", 4);
+        ends("up 1 ;", 4);
+        ends("up 12;", 3);
+        ends("up", 1);
+        ends("cut;", 3);
+        ends("cut   ;", 5);
+        ends("strike 1 2;", 9);
+        ends("up 123;", 5);
+        KIT.says("end: 0: none of it");
+        x = new PaperDonkey();
         Kit.put(x, "?");
         KIT.due("none", x.end(0), 0);
         KIT.due("text of none", x.text(2, -1), 0);
+        KIT.due("no clue", x.clue(0, -1, 0), 0);
+    }
+
+    /** A text that is cut behind its first n bytes: a FAULT at the end, or at a word that is none. */
+    private static void ends(String text, int n) {
+        PaperDonkey x = new PaperDonkey();
+        Kit.put(x, text);
+        KIT.due("end " + n + " of " + text, x.end(n), n);
+        KIT.due("text", x.text(1, -1), -1);
+        KIT.due("fault", x.fault(0), 1);
+        KIT.due("place", x.fault(1), n == 1 ? 0 : n);
     }
 
     private static void notSoMany() {

@@ -327,6 +327,7 @@ public final class EdgesTextTest {
         KIT.dueText(0, WHOLE + "cell 0 1;", 0, -1);
         KIT.dueText(0, WHOLE + "cell 1 1;", 4, WHOLE.length() + 9);
         KIT.dueText(0, WHOLE + "cell 7 1;", 4, WHOLE.length() + 9);
+        KIT.dueText(0, WHOLE + "cell 1 1;cell 0 1;", 4, WHOLE.length() + 18);
         KIT.dueText(0, "cell 0 1;" + WHOLE, 0, -1);
         KIT.dueText(0, "cell 1 1;" + WHOLE, 4, WHOLE.length() + 9);
         KIT.dueText(0, "cell 7 1;part 0 1;" + "child 3 1 0 0;".repeat(8), 0, -1);
@@ -340,6 +341,12 @@ public final class EdgesTextTest {
         KIT.dueText(0, WHOLE + "friend 0 1;child 3 1 0 0;", 0, -1);
         KIT.dueText(0, WHOLE + "foe 1 0;child 3 1 0 0;", 0, -1);
         KIT.dueText(0, WHOLE + "friend 0 1;foe 0 1;", 4, WHOLE.length() + 19);
+        String two = WHOLE + "child 3 1 0 0;";
+        KIT.dueText(0, two + "friend 2 0;friend 1 0;", 4, two.length() + 22);
+        KIT.dueText(0, two + "friend 0 7;foe 1 0;", 4, two.length() + 19);
+        KIT.dueText(0, two + "foe 2 0;friend 1 0;", 4, two.length() + 19);
+        KIT.dueText(0, two + "foe 0 2;foe 1 0;", 4, two.length() + 16);
+        KIT.dueText(0, two + "foe 0 2;cell 1 0;", 4, two.length() + 17);
         KIT.dueText(2, "says 7 0;truth 6 1;", 0, -1);
         KIT.dueText(1, "go 7;", 0, -1);
         KIT.dueText(4, "true 7;", 0, -1);

@@ -6,7 +6,7 @@ public final class EdgesToldTest {
     private static final String LEAST = "part 0 1;child 3 1 0 0;";
     /** Five PARTS, eight CHILDREN, each NUMBER the most that can be. */
     private static final String MOST = "part 9 30;".repeat(5) + "child 15 9 10 9;".repeat(8)
-            + "cell 7 24;friend 0 7;foe 7 0;turned 0 9;turned 7 9;ring 0 9;ring 2 9;blows 5;lift 16;sweets 60;bandage 9;stick 3;";
+            + "cell 0 24;cell 7 24;friend 0 7;foe 7 0;turned 0 9;turned 7 9;ring 0 9;ring 2 9;blows 5;lift 16;sweets 60;bandage 9;stick 3;";
 
     public static void main(String[] args) {
         atFirst();
@@ -52,15 +52,24 @@ public final class EdgesToldTest {
         }
         KIT.says("at first, though the one in whose place it is was told otherwise");
         Kit.tell(x, 0, MOST);
-        Kit.put(x, LEAST + "child 3 1 0 0;");
+        Kit.put(x, LEAST + "child 3 1 0 0;".repeat(7));
         KIT.due("in the place of 1", x.text(0, 1), 1);
-        int[] due = {1, 2, 3, 16, 20, 2, 1};
+        int[] due = {1, 8, 3, 16, 20, 2, 1};
         for (int what = 0; what < 7; what++) {
             KIT.due("party " + what, x.party(1, what), due[what]);
         }
-        KIT.due("turned 7", x.party(1, 17), 1);
-        KIT.due("ring 2", x.party(1, 22), 1);
-        KIT.due("tie", x.child(1, 0, 11), 1);
+        for (int w = 0; w < 8; w++) {
+            KIT.due("turned " + w, x.party(1, 10 + w), 1);
+        }
+        for (int r = 0; r < 3; r++) {
+            KIT.due("ring " + r, x.party(1, 20 + r), 1);
+        }
+        for (int c = 0; c < 8; c++) {
+            KIT.due("cell " + c, x.child(1, c, 4), 0);
+            for (int other = 0; other < 8; other++) {
+                KIT.due("tie of " + c + " to " + other, x.child(1, c, 10 + other), 1);
+            }
+        }
         Kit.put(x, "truth 7 9;");
         x.text(2, 0);
         Kit.put(x, "");

@@ -393,6 +393,7 @@ public final class EdgesYardTest {
         bags(with(ages, "fell 0 2;fell 24 5;"), 2, 1, 3, 2, 2);
         bags(with(ages, "fell 0 9;".repeat(25)), -1, 1, 75, 75, 75);
         bags(with(PART + "child 3 1 0 0;".repeat(8), "fell 3 9;"), 0, 1, 2, 1, 1, 1, 1, 1, 1, 1);
+        bags(with(PART + "child 3 1 0 0;", "fell 3 9;fell 4 1;"), -1, 1, 10);
         KIT.says("SMALL (3): dealt one by one by AGE, the least first, of several the least");
         bags(with(ages, ""), -1, 3, 0, 0, 0);
         bags(with(ages, "fell 0 1;"), -1, 3, 0, 1, 0);
@@ -401,6 +402,7 @@ public final class EdgesYardTest {
         bags(with(ages, "fell 0 4;"), 1, 3, 1, 2, 1);
         bags(with(ages, "fell 0 9;".repeat(25)), -1, 3, 75, 75, 75);
         bags(with(PART + "child 15 1 0 0;child 14 1 0 0;child 3 1 0 0;child 15 1 0 0;child 3 1 0 0;", "fell 0 4;"), -1, 3, 1, 1, 1, 0, 1);
+        bags(with(PART + "child 3 1 0 0;", "fell 3 9;fell 4 1;"), 0, 3, 10);
         bags(with(PART + "child 4 1 0 0;child 3 1 0 0;", "fell 0 1;"), -1, 3, 0, 1);
         bags(with(PART + "child 3 1 0 0;child 4 1 0 0;", "fell 0 1;"), -1, 3, 1, 0);
     }
@@ -411,6 +413,7 @@ public final class EdgesYardTest {
         bags(with(party + "friend 1 0;friend 2 0;", "fell 4 3;"), 0, 2, 1, 2, 0);
         bags(with(party + "friend 1 0;friend 2 0;", "fell 4 1;fell 24 1;"), 0, 2, 2, 0, 0);
         bags(with(party + "friend 0 1;friend 0 2;", "fell 4 1;fell 24 1;"), 0, 2, 0, 1, 1);
+        bags(with(party + "friend 0 2;friend 1 2;", "fell 0 1;fell 4 3;"), 2, 2, 0, 2, 2);
         KIT.says("THANKS: he gives one to each whose TIE to him is FOE");
         bags(with(party + "bandage 0;foe 1 0;foe 2 0;", "fell 12 9;"), 0, 2, 7, 1, 1);
         bags(with(party + "bandage 0;foe 0 1;foe 0 2;", "fell 12 9;"), 0, 2, 9, 0, 0);
