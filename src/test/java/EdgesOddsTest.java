@@ -268,6 +268,14 @@ public final class EdgesOddsTest {
         best("part 0 1;child 3 1 5 0;blows 1;", 1, 2);
         best("part 0 1;child 3 1 5 0;blows 2;", 3, 4);
         best("part 0 30;child 3 1 10 0;blows 5;", 0, 1);
+        KIT.says("UNCLE of a PARTY of few blows, asked behind one of many");
+        PaperDonkey x = Kit.withParty("part 0 15;blows 5;" + children(3, "3 1 10 0"));
+        Kit.tell(x, 0, "part 0 3;child 3 1 10 0;child 3 1 0 0;blows 1;");
+        for (int k = 0; k < 2; k++) {
+            KIT.dueFraction("of many", x.uncle(0, false), x.uncle(0, true), 1, 1);
+            KIT.dueFraction("of few", x.uncle(1, false), x.uncle(1, true), 0, 1);
+            KIT.due("lifts of few", x.lifts(1, 0, 0, 1), 0);
+        }
         KIT.says("(LIFT does not count)");
         best("part 0 1;child 9 1 10 0;blows 1;lift 3;", 1, 1);
         best("part 0 2;child 9 1 10 0;child 9 1 10 0;blows 1;lift 3;", 1, 1);
@@ -346,6 +354,10 @@ public final class EdgesOddsTest {
         // The surest one last: of any two others the surer one behind.
         fairOf("part 0 1;child 3 1 10 0;child 3 1 5 0;child 3 1 4 0;blows 1;", 0210);
         fairOf("part 0 1;child 3 1 10 0;child 3 1 5 0;child 3 1 4 0;child 3 1 3 0;child 3 1 2 0;blows 1;", 043210);
+        // By the greatest one alone 201 were it, by the least one alone 120: .1, .4, .5 are nearest.
+        fairOf("part 0 1;child 3 1 10 0;child 3 1 8 0;child 3 1 5 0;blows 1;", 0210);
+        // By the greatest one alone 120, by the least one alone 201.
+        fairOf("part 0 1;child 3 1 3 0;child 3 2 2 0;child 3 2 1 0;blows 1;", 0210);
         fairOfEach();
         KIT.says("FAIR: of all CHILDREN (5 at most), NONE: more than 5 CHILDREN");
         for (int n = 1; n <= 8; n++) {
